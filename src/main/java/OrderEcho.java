@@ -198,7 +198,7 @@ public final class OrderEcho {
         int sold = 0;
         for (int i = 0; i < n; i++) {
             for (int s = 0; s < told.length; s++) {
-                told[s] = plan.isShop(s) ? d : 0;
+                told[s] = d;
             }
             sold += goBy();
         }

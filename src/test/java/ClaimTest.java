@@ -131,6 +131,7 @@ public final class ClaimTest {
         // What was told for this week and other shops isn't looked at.
         x.demand(3, 99);
         x.demand(4, 99);
+        x.worst(7 - s, 1 - what, 3, 50, 60);
         String call = "worst(" + s + "," + what + "," + n + "," + lo + "," + hi + ")";
         Check.due(call, x.worst(s, what, n, lo, hi), most);
         for (int i = 0; i < n; i++) {
@@ -156,6 +157,11 @@ public final class ClaimTest {
         Check.due("lo first, so it is the second", x.worstAt(0), 2);
         Check.due("hi", x.worstAt(1), 5);
         Check.due("lo", x.worstAt(2), 2);
+        x.weeks(6, 900);
+        Check.due("what was ordered before", x.about(0, 10), 900);
+        Check.due("and what is under way", x.worst(1, 1, 1, 0, 0), 900);
+        x.week();
+        Check.due("was before", x.worst(1, 1, 1, 0, 0), 0);
     }
 
     private static void gets() {
@@ -169,6 +175,10 @@ public final class ClaimTest {
                 Check.due("nothing there", x.gets(how, 0, 0x9465, 4, i), 0);
                 Check.due("nothing claimed", x.gets(how, 5, 0, 4, i), 0);
             }
+        }
+        int[] even = {2, 5, 5, 4};
+        for (int i = 0; i < 4; i++) {
+            Check.due("evenly " + i, x.gets(2, 16, 0x4cc2, 4, i), even[i]);
         }
         Check.due("a claim of 0 gets none", x.gets(2, 5, 0xc0c, 3, 1), 0);
         Check.due("the first gets the odd one", x.gets(2, 5, 0xc0c, 3, 0), 3);

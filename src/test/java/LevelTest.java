@@ -6,6 +6,7 @@ public final class LevelTest {
         chances();
         sums();
         refusals();
+        leastOfSeveral();
         allRows();
         Check.end("LevelTest");
     }
@@ -73,9 +74,25 @@ public final class LevelTest {
         Check.holds("fine", x.levelCost(1, 33, 9999, 30) > 0);
     }
 
+    private static void leastOfSeveral() {
+        OrderEcho x = new OrderEcho();
+        x.chances(10001);
+        Check.due("0, 4, 8 by 1, 2, 1: 4 to 8 cost the same", x.level(0, 11, 1102), 4);
+        Check.due("C(4)", x.levelCost(0, 11, 1102, 4), x.levelCost(0, 11, 1102, 8));
+        x.chances(11);
+        Check.due("far", x.level(1, 11, 1110), 11);
+        Check.due("K(11)", x.levelCost(1, 11, 1110, 11), x.levelCost(1, 11, 1110, 12));
+        x.chances(91000);
+        Check.due("seldom a demand: near", x.level(0, 11, 1107), 1);
+        Check.due("seldom a demand: far", x.level(1, 11, 1107), 1);
+        x.chances(10000);
+        Check.due("no demand: near", x.level(0, 33, 9999), 0);
+        Check.due("no demand: far", x.level(1, 33, 9999), 0);
+    }
+
     /** Against sums over all rows of demands, one by one. */
     private static void allRows() {
-        int[] weights = {11111, 12321, 90009, 1, 50000, 70310};
+        int[] weights = {11111, 12321, 90009, 1, 50000, 70310, 91000};
         int[][] cases = {{11, 1101}, {21, 9199}, {12, 1901}, {33, 2350}, {31, 9999}, {13, 1199}};
         for (int i = 0; i < weights.length; i++) {
             for (int[] c : cases) {

@@ -122,6 +122,8 @@ public final class NetTest {
         Check.due("allot -1", x.allot(-1), -2);
         Check.due("allot again", x.allot(1), 2);
         Check.due("count 3", x.count(3), 1);
+        Check.due("allot 0", x.allot(0), 1);
+        Check.due("count 3", x.count(3), 0);
     }
 
     private static void aboutStages() {
@@ -186,6 +188,18 @@ public final class NetTest {
         Check.due("stock waits", x.about(0, 6), 30);
         x.week();
         Check.due("stock has them", x.about(0, 6), 35);
+        OrderEcho y = new OrderEcho();
+        y.stage(0, 0, 6, 0, 0);
+        Check.rule(y, "week+1");
+        y.use(0, 0);
+        y.weeks(6, 0);
+        for (int i = 1; i <= 6; i++) {
+            Check.due("slot " + i + " of 6", y.slot(0, i), i);
+        }
+        Check.due("slot 7", y.slot(0, 7), -1);
+        y.week();
+        Check.due("six weeks on", y.about(0, 6), 1);
+        Check.due("slot 6", y.slot(0, 6), 7);
     }
 
     private static void owed() {

@@ -8,6 +8,7 @@ public final class SwingTest {
         spentGain();
         straight();
         echoes();
+        spentOnTheWay();
         poles();
         loudness();
         steady();
@@ -39,8 +40,8 @@ public final class SwingTest {
         Check.due("the latest", x.swing(1, 0, 38), 0);
         Check.due("39", x.swing(1, 0, 39), 39 * (38 * 25 + 49) - (190 + 7) * (190 + 7));
         Check.due("40", x.swing(1, 0, 40), 40 * (38 * 25 + 49 + 9) - 200 * 200);
-        Check.due("41", x.swing(1, 0, 41), NO);
         x.week();
+        Check.due("41", x.swing(1, 0, 41), NO);
         Check.due("the oldest goes", x.swing(1, 0, 40), 40 * (38 * 25 + 49) - 197 * 197);
     }
 
@@ -96,7 +97,7 @@ public final class SwingTest {
 
     private static void straight() {
         OrderEcho x = new OrderEcho();
-        int[] bad = {-1, 0, 100, 121, 199, 301, 302 - 1, 4120, 502, 41 * 100 + 20, Integer.MIN_VALUE, Integer.MAX_VALUE};
+        int[] bad = {-1, 0, 100, 121, 199, 301, 4120, 502, Integer.MIN_VALUE, Integer.MAX_VALUE};
         for (int v : bad) {
             Check.due("t " + v, x.straight(v, 101, 1), -2);
             Check.due("a " + v, x.straight(101, v, 1), -2);
@@ -140,6 +141,27 @@ public final class SwingTest {
         x.straight(201, 201, 1);
         Check.due("no way is lost: 0", x.echo(0, 0), 7);
         Check.due("no way is lost: 1", x.echo(1, 0), -16);
+        x.straight(101, 101, 8);
+        Check.due("m 8", x.echo(0, 0), 1 + 8 + 1);
+        x.straight(1, 110, 1);
+        Check.due("just 1000000000 below", x.echo(8, 1), 1000000000L);
+        Check.due("and above", x.echo(8, 0), -4782969L);
+        Check.due("beyond", x.echo(9, 0), SPENT);
+    }
+
+    /** In each of these weeks one fraction alone is beyond 1000000000, and the order is not. */
+    private static void spentOnTheWay() {
+        int[][] rows = {{102, 706, 3, 11}, {102, 1609, 3, 7}, {1307, 107, 8, 9}, {1910, 1, 1, 8}, {102, 1, 8, 29}};
+        for (int[] row : rows) {
+            OrderEcho x = new OrderEcho();
+            x.straight(row[0], row[1], row[2]);
+            int k = row[3];
+            Check.holds("not yet spent", x.echo(k - 1, 0) != SPENT && x.echo(k - 1, 1) != SPENT);
+            Check.due("P and O, m F - P, m F, t (D - F), F: above", x.echo(k, 0), SPENT);
+            Check.due("P and O, m F - P, m F, t (D - F), F: below", x.echo(k, 1), SPENT);
+            Check.due("and so is the next one", x.echo(k + 1, 0), SPENT);
+            Check.due("and loudness", x.loud(Math.min(30, k + 1), 0), SPENT);
+        }
     }
 
     private static void poles() {
