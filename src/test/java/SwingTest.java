@@ -6,6 +6,7 @@ public final class SwingTest {
         swings();
         gains();
         spentGain();
+        justNotSpent();
         straight();
         echoes();
         spentOnTheWay();
@@ -93,6 +94,22 @@ public final class SwingTest {
         Check.due("orders swing", x.swing(1, 1, 8), 16 * 99980001L);
         Check.due("spent above", x.gain(1, 8, 0), SPENT);
         Check.due("spent below", x.gain(1, 8, 1), SPENT);
+    }
+
+    private static void justNotSpent() {
+        OrderEcho x = new OrderEcho();
+        x.stage(0, 0, 1, 0, 0);
+        x.stage(3, 0, 1, 0, 0);
+        String[] texts = {"8", "3084", "8452"};
+        x.demand(1, 1);
+        for (int i = 0; i < texts.length; i++) {
+            x.use(1, Check.rule(x, texts[i]));
+            x.week();
+        }
+        x.use(1, -1);
+        x.weeks(11, 0);
+        Check.due("1000000000 by 13: above", x.gain(1, 14, 0), 1000000000L);
+        Check.due("1000000000 by 13: below", x.gain(1, 14, 1), 13);
     }
 
     private static void straight() {
