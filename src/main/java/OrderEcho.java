@@ -230,13 +230,12 @@ public final class OrderEcho {
     }
 
     public int rule() {
-        if (!tape.read()) {
-            tape.length = 0;
-            return FAULT_BASE - tape.at;
+        if (rules.count >= MOST_RULES) {
+            return FULL;
         }
-        int number = rules.keep(tape.code, tape.size);
-        tape.length = number == FULL ? tape.length : 0;
-        return number;
+        boolean fine = tape.read();
+        tape.length = 0;
+        return fine ? rules.keep(tape.code, tape.size) : FAULT_BASE - tape.at;
     }
 
     public long worth(int rule, int s) {
@@ -311,7 +310,7 @@ public final class OrderEcho {
     }
 
     public int steady(long c, int k) {
-        if (!within(k, 1, 4)) {
+        if (!within(k, 1, 4) || !endsBelow(c, 8 * (k + 1))) {
             return BAD;
         }
         for (int i = 0; i <= k; i++) {
@@ -484,6 +483,11 @@ public final class OrderEcho {
 
     private static boolean within(int v, int least, int most) {
         return v >= least && v <= most;
+    }
+
+    /** A number that tells a row of digits has no more of them than are told; one below 0 has all of them. */
+    private static boolean endsBelow(long digits, int bits) {
+        return digits >>> bits == 0;
     }
 
     /** What is told of the stages and doesn't change as weeks go by. */
@@ -1281,7 +1285,7 @@ public final class OrderEcho {
 
         boolean readClaims(long digits, int k) {
             share.size = 0;
-            boolean fine = true;
+            boolean fine = endsBelow(digits, 4 * k);
             for (int i = 0; i < k && i < MOST; i++) {
                 int claim = (int) (digits >>> (4 * i)) & 15;
                 fine = fine && claim <= MOST_CLAIM;
@@ -1292,7 +1296,7 @@ public final class OrderEcho {
 
         boolean readWants(long digits, int k) {
             share.size = 0;
-            boolean fine = true;
+            boolean fine = endsBelow(digits, 4 * k);
             for (int i = 0; i < k && i < MOST; i++) {
                 wants[i] = (int) (digits >>> (4 * i)) & 15;
                 fine = fine && wants[i] <= MOST_WANT;

@@ -7,6 +7,7 @@ public final class ClaimTest {
         worstOfSeveral();
         gets();
         claimRefusals();
+        tooManyDigits();
         calm();
         counts();
         Check.end("ClaimTest");
@@ -182,7 +183,6 @@ public final class ClaimTest {
         }
         Check.due("a claim of 0 gets none", x.gets(2, 5, 0xc0c, 3, 1), 0);
         Check.due("the first gets the odd one", x.gets(2, 5, 0xc0c, 3, 0), 3);
-        Check.due("digits above k are not looked at", x.gets(0, 5, 0xf33, 2, 1), 2);
     }
 
     private static void claimRefusals() {
@@ -205,6 +205,26 @@ public final class ClaimTest {
         Check.due("want 9", x.calm(0, 5, 0x99, 0xcc, 2) >= 0 ? 1 : 0, 1);
         Check.due("want 10", x.calm(0, 5, 0xa9, 0xcc, 2), -2);
         Check.due("want 10", x.calmest(0, 5, 0x9a, 2), -2);
+    }
+
+    /** Any bit above the k-th digit, the sign too, makes the number one that is not as told. */
+    private static void tooManyDigits() {
+        OrderEcho x = new OrderEcho();
+        for (int k = 2; k <= 4; k++) {
+            long row = 0x3333 & (1L << 4 * k) - 1;
+            Check.due("k claims", x.gets(0, 40, row, k, 0), 3);
+            Check.due("k wants and claims", x.calm(0, 40, row, row, k), 1);
+            Check.due("k wants", x.calmest(0, 40, row, k), k == 4 ? -2 : row);
+            for (int bit = 4 * k; bit < 64; bit++) {
+                long more = row | 1L << bit;
+                String what = "bit " + bit + " with k " + k;
+                Check.due("gets: " + what, x.gets(0, 40, more, k, 0), -2);
+                Check.due("gets, no such customer: " + what, x.gets(0, 40, more, k, k), -1);
+                Check.due("calm, wants: " + what, x.calm(0, 40, more, row, k), -2);
+                Check.due("calm, claims: " + what, x.calm(0, 40, row, more, k), -2);
+                Check.due("calmest: " + what, x.calmest(0, 40, more, k), -2);
+            }
+        }
     }
 
     private static boolean plainCalm(OrderEcho x, int how, int s, int wants, int claims, int k) {

@@ -172,7 +172,9 @@ public final class FaceTest {
         x.chance(6, 12);
         x.steady(426886129255L, 4);
         x.weeks(1, 9);
+        // With a fault, so that there is room for another rule and the tape is read each time.
         x.feed(0x28312B3229L, 5);
+        x.feed(0x29L, 1);
         x.rule();
         x.worth(0, 3);
         x.gain(3, 20, 0);

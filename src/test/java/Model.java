@@ -407,16 +407,16 @@ final class Model {
     }
 
     int rule() {
-        int fault = fault(tape.toString());
-        if (fault >= 0) {
-            tape.setLength(0);
-            return -10 - fault;
-        }
         if (rules.size() == 12) {
             return FULL;
         }
-        rules.add(tape.toString());
+        String text = tape.toString();
         tape.setLength(0);
+        int fault = fault(text);
+        if (fault >= 0) {
+            return -10 - fault;
+        }
+        rules.add(text);
         return rules.size() - 1;
     }
 
@@ -671,7 +671,7 @@ final class Model {
     }
 
     int steady(long c, int k) {
-        if (out(k, 1, 4)) {
+        if (out(k, 1, 4) || tooLong(c, 256, k + 1)) {
             return BAD;
         }
         List<BigInteger> row = new ArrayList<>();
@@ -843,7 +843,14 @@ final class Model {
         return i < 0 || i >= worstRow.length ? NONE : worstRow[i];
     }
 
+    private static boolean tooLong(long v, int base, int digits) {
+        return v < 0 || BigInteger.valueOf(v).compareTo(BigInteger.valueOf(base).pow(digits)) >= 0;
+    }
+
     private static int[] digits(long v, int k, int most) {
+        if (tooLong(v, 16, k)) {
+            return null;
+        }
         int[] row = new int[k];
         for (int i = 0; i < k; i++) {
             row[i] = (int) (v >> 4 * i & 15);

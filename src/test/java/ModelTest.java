@@ -241,11 +241,19 @@ public final class ModelTest {
         same("pole", seed, x.pole(which, i, what), y.pole(which, i, what));
         int wide = random.nextBoolean() ? 100 : 4;
         int degree = some(1, 4);
-        long c = random.nextInt(5);
+        long c = 0;
         for (int j = 0; j < 5; j++) {
             c = c << 8 | (100 - wide + random.nextInt(2 * wide + 1));
         }
+        c = cut(c, 8, degree + 1);
         same("steady", seed, x.steady(c, degree), y.steady(c, degree));
+    }
+
+    /** As many digits as are told; now and then one bit more, anywhere above them. */
+    private long cut(long v, int bits, int digits) {
+        int end = Math.max(0, Math.min(63, bits * digits));
+        long told = v & (1L << end) - 1;
+        return random.nextInt(8) == 0 ? told | 1L << end + random.nextInt(64 - end) : told;
     }
 
     private void levels(int seed) {
@@ -277,6 +285,8 @@ public final class ModelTest {
             claims = claims << 4 | some(0, 12) & 15;
             wants = wants << 4 | some(0, 9) & 15;
         }
+        claims = cut(claims, 4, k);
+        wants = cut(wants, 4, k);
         same("gets", seed, x.gets(how, s, claims, k, i), y.gets(how, s, claims, k, i));
         same("calm", seed, x.calm(how, s, wants, claims, k), y.calm(how, s, wants, claims, k));
         if (random.nextInt(40) == 0) {

@@ -82,12 +82,20 @@ public final class RuleTest {
         Check.due("the tape stays", x.count(4), 2);
         Check.due("still full", x.rule(), -4);
         Check.due("rules", x.count(1), 12);
-        Check.due("a fault is told first", Check.rule(x, "x"), -12);
-        Check.due("the tape is empty then", x.count(4), 0);
+        Check.due("full with a fault, too", Check.rule(x, "x"), -4);
+        Check.due("the tape keeps it", x.count(4), 3);
+        Check.due("one more byte", x.feed(0, 1), 4);
         x.stage(0, 0, 1, 0, 0);
         for (int i = 0; i < 12; i++) {
             Check.due("worth " + i, x.worth(i, 0), i);
         }
+        OrderEcho y = new OrderEcho();
+        for (int i = 0; i < 12; i++) {
+            Check.due("a fault makes no rule", Check.rule(y, "x"), -10);
+            Check.due("rule " + i, Check.rule(y, "week"), i);
+        }
+        Check.due("full with an empty tape, too", y.rule(), -4);
+        Check.due("the tape is empty still", y.count(4), 0);
     }
 
     private static void values() {

@@ -253,7 +253,21 @@ public final class SwingTest {
         Check.due("great numbers", x.steady(coefficients(98, 99, 99, 99, 97), 4), 1);
         Check.due("the last step", x.steady(coefficients(99, 99, -74, 17, -2), 4), 0);
         Check.due("the last step", x.steady(coefficients(99, -93, -2, 0, 0), 4), 1);
-        Check.due("what is above c4 is not looked at", x.steady(0x7f00_0000_0000_0000L + coefficients(2, 1), 1), 1);
+        tooManyCoefficients(x);
         Check.due("a root at 0 of the turned one", x.steady(coefficients(3, 1, 0, 0, 0), 4), 1);
+    }
+
+    /** Any bit above ck, the sign too, makes the number one that is not as told. */
+    private static void tooManyCoefficients(OrderEcho x) {
+        long[] fine = {coefficients(2, 1), coefficients(4, -4, 1), coefficients(24, -2, -5, 1),
+            coefficients(16, -32, 24, -8, 1)};
+        for (int k = 1; k <= 4; k++) {
+            Check.due("just k + 1", x.steady(fine[k - 1], k), 1);
+            for (int bit = 8 * (k + 1); bit < 64; bit++) {
+                Check.due("bit " + bit + " with k " + k, x.steady(fine[k - 1] | 1L << bit, k), -2);
+            }
+        }
+        Check.due("three coefficients with k 1", x.steady(coefficients(4, -4, 1), 1), -2);
+        Check.due("a third one that is 0", x.steady(coefficients(2, 1, 0), 1), -2);
     }
 }
