@@ -209,31 +209,31 @@ public final class ClaimTest {
 
     /** Any bit above the k-th digit, the sign too, makes the number one that is not as told. */
     private static void tooManyDigits() {
-        OrderEcho x = new OrderEcho();
+        Fresh fresh = new Fresh();
         for (int k = 2; k <= 4; k++) {
             long row = 0x3333 & (1L << 4 * k) - 1;
-            Check.due("k claims", x.gets(0, 40, row, k, 0), 3);
-            Check.due("k wants and claims", x.calm(0, 40, row, row, k), 1);
-            Check.due("k wants", x.calmest(0, 40, row, k), k == 4 ? -2 : row);
+            Check.due("k claims", fresh.next().gets(0, 40, row, k, 0), 3);
+            Check.due("k wants and claims", fresh.next().calm(0, 40, row, row, k), 1);
+            Check.due("k wants", fresh.next().calmest(0, 40, row, k), k == 4 ? -2 : row);
             for (int bit = 4 * k; bit < 64; bit++) {
                 long more = row | 1L << bit;
                 String what = "bit " + bit + " with k " + k;
-                Check.due("gets: " + what, x.gets(0, 40, more, k, 0), -2);
-                Check.due("gets, no such customer: " + what, x.gets(0, 40, more, k, k), -1);
-                Check.due("calm, wants: " + what, x.calm(0, 40, more, row, k), -2);
-                Check.due("calm, claims: " + what, x.calm(0, 40, row, more, k), -2);
-                Check.due("calmest: " + what, x.calmest(0, 40, more, k), -2);
+                Check.due("gets: " + what, fresh.next().gets(0, 40, more, k, 0), -2);
+                Check.due("gets, no such customer: " + what, fresh.next().gets(0, 40, more, k, k), -1);
+                Check.due("calm, wants: " + what, fresh.next().calm(0, 40, more, row, k), -2);
+                Check.due("calm, claims: " + what, fresh.next().calm(0, 40, row, more, k), -2);
+                Check.due("calmest: " + what, fresh.next().calmest(0, 40, more, k), -2);
             }
         }
     }
 
-    private static boolean plainCalm(OrderEcho x, int how, int s, int wants, int claims, int k) {
+    private static boolean plainCalm(Fresh fresh, int how, int s, int wants, int claims, int k) {
         for (int i = 0; i < k; i++) {
             int want = wants >> 4 * i & 15;
-            int far = Math.abs(x.gets(how, s, claims, k, i) - want);
+            int far = Math.abs(fresh.next().gets(how, s, claims, k, i) - want);
             for (int c = 0; c <= 12; c++) {
                 int other = claims & ~(15 << 4 * i) | c << 4 * i;
-                if (Math.abs(x.gets(how, s, other, k, i) - want) < far) {
+                if (Math.abs(fresh.next().gets(how, s, other, k, i) - want) < far) {
                     return false;
                 }
             }
@@ -242,7 +242,7 @@ public final class ClaimTest {
     }
 
     private static void calm() {
-        OrderEcho x = new OrderEcho();
+        Fresh fresh = new Fresh();
         java.util.Random random = new java.util.Random(7);
         for (int turn = 0; turn < 400; turn++) {
             int k = 2 + turn % 2;
@@ -256,11 +256,11 @@ public final class ClaimTest {
             int rows = k == 2 ? 169 : 2197;
             for (int row = 0; row < rows && first < 0; row++) {
                 int claims = k == 2 ? row / 13 | row % 13 << 4 : row / 169 | row / 13 % 13 << 4 | row % 13 << 8;
-                boolean is = plainCalm(x, how, s, wants, claims, k);
-                Check.due("calm " + claims, x.calm(how, s, wants, claims, k), is ? 1 : 0);
+                boolean is = plainCalm(fresh, how, s, wants, claims, k);
+                Check.due("calm " + claims, fresh.next().calm(how, s, wants, claims, k), is ? 1 : 0);
                 first = is ? claims : -1;
             }
-            Check.due("calmest(" + how + "," + s + "," + wants + "," + k + ")", x.calmest(how, s, wants, k), first);
+            Check.due("calmest(" + how + "," + s + "," + wants + "," + k + ")", fresh.next().calmest(how, s, wants, k), first);
         }
         for (int turn = 0; turn < 2000; turn++) {
             int how = random.nextInt(3);
@@ -272,7 +272,7 @@ public final class ClaimTest {
                 claims = claims * 16 + random.nextInt(13);
             }
             claims = turn % 4 == 0 ? 0xcccc : claims;
-            Check.due("calm of 4", x.calm(how, s, wants, claims, 4), plainCalm(x, how, s, wants, claims, 4) ? 1 : 0);
+            Check.due("calm of 4", fresh.next().calm(how, s, wants, claims, 4), plainCalm(fresh, how, s, wants, claims, 4) ? 1 : 0);
         }
     }
 

@@ -92,8 +92,8 @@ public final class LevelTest {
 
     /** Against sums over all rows of demands, one by one. */
     private static void allRows() {
-        int[] weights = {11111, 12321, 90009, 1, 50000, 70310, 91000};
-        int[][] cases = {{11, 1101}, {21, 9199}, {12, 1901}, {33, 2350}, {31, 9999}, {13, 1199}};
+        int[] weights = {11111, 12321, 90009, 1, 50000, 70310, 91000, 10102, 15060, 60015};
+        int[][] cases = {{11, 1110}, {11, 2305}, {11, 1101}, {21, 9199}, {12, 1901}, {33, 2350}, {31, 9999}, {13, 1199}};
         for (int i = 0; i < weights.length; i++) {
             for (int[] c : cases) {
                 compare(weights[i], c[0], c[1]);
